@@ -241,7 +241,7 @@ public final class SkewBoard {
         if (i < 0 || i > plan.rows || j < 0 || j > MAX_NUMBER) {
             return OUTSIDE;
         }
-        return plan.innerSum(i) + fresh.boxesUpTo(way, i, j);
+        return partialSum(fresh, way, i, j);
     }
 
     public int terms() {
@@ -259,7 +259,7 @@ public final class SkewBoard {
         if (what < 0 || what > MAX_ROWS) {
             return OUTSIDE;
         }
-        return what < MAX_ROWS ? fresh.lengthOf(term, what) : fresh.multiplicityOf(term);
+        return fresh.propertyOf(term, what);
     }
 
     // ---- observations, random fillings
@@ -363,7 +363,12 @@ public final class SkewBoard {
     public long digest() {
         long h = DIGEST_START;
         if (!plan.isMissing()) {
-            h = digestBoard(h);
+            for (int what = 0; what <= 4; what++) {
+                h = mix(h, about(what));
+            }
+            for (int place = 0; place < plan.signCount(); place++) {
+                h = mix(h, text(place));
+            }
             h = digestFillings(h);
             h = digestTerms(h);
         }
@@ -382,28 +387,16 @@ public final class SkewBoard {
         return 31 * h + value;
     }
 
-    private long digestBoard(long start) {
-        long h = start;
-        for (int what = 0; what <= 4; what++) {
-            h = mix(h, about(what));
-        }
-        for (int place = 0; place < plan.signCount(); place++) {
-            h = mix(h, text(place));
-        }
-        return h;
-    }
-
     private long digestFillings(long start) {
         long h = start;
-        int boxes = plan.boxCount();
-        int ways = Math.min(freshFillings().size, DIGEST_FILLINGS);
-        for (int way = 0; way < ways; way++) {
-            for (int box = 0; box < boxes; box++) {
-                h = mix(h, way(way, box));
+        Fillings fresh = freshFillings();
+        for (int way = 0; way < fresh.size && way < DIGEST_FILLINGS; way++) {
+            for (int box = 0; box < fresh.grid.size; box++) {
+                h = mix(h, fresh.numberIn(way, box));
             }
             for (int i = 0; i <= plan.rows; i++) {
                 for (int j = 0; j <= MAX_NUMBER; j++) {
-                    h = mix(h, hive(way, i, j));
+                    h = mix(h, partialSum(fresh, way, i, j));
                 }
             }
         }
@@ -412,10 +405,10 @@ public final class SkewBoard {
 
     private long digestTerms(long start) {
         long h = start;
-        int size = freshProducts().size;
-        for (int term = 0; term < size; term++) {
+        Products fresh = freshProducts();
+        for (int term = 0; term < fresh.size; term++) {
             for (int what = 0; what <= MAX_ROWS; what++) {
-                h = mix(h, term(term, what));
+                h = mix(h, fresh.propertyOf(term, what));
             }
         }
         return h;
@@ -433,6 +426,10 @@ public final class SkewBoard {
 
     private static boolean extendsKind(int own, int kind) {
         return kind == own || kind == PLAIN || (kind == COLUMNS && own == LATTICE);
+    }
+
+    private int partialSum(Fillings fresh, int way, int i, int j) {
+        return plan.innerSum(i) + fresh.boxesUpTo(way, i, j);
     }
 
     /** What forbids the draft as the new board, or 0. */
@@ -885,11 +882,21 @@ public final class SkewBoard {
 
         boolean hasContent(Plan plan) {
             for (int number = 1; number <= MAX_NUMBER; number++) {
-                if (timesBefore(grid.size, number) != plan.content[number - 1]) {
+                if (timesThere(number) != plan.content[number - 1]) {
                     return false;
                 }
             }
             return true;
+        }
+
+        private int timesThere(int number) {
+            int times = 0;
+            for (int box = 0; box < grid.size; box++) {
+                if (numbers[box] == number) {
+                    times++;
+                }
+            }
+            return times;
         }
 
         /** Whether the number in a box agrees by the rule with those in the boxes before it. */
@@ -936,18 +943,16 @@ public final class SkewBoard {
          */
         private boolean keepsLattice(int box) {
             int number = numbers[box];
-            return number == 1
-                || timesBefore(box + 1, number) <= timesBefore(grid.rowStart[box], number - 1);
-        }
-
-        private int timesBefore(int end, int number) {
-            int times = 0;
-            for (int box = 0; box < end && box < grid.size; box++) {
-                if (numbers[box] == number) {
-                    times++;
+            int there = 0;
+            int matched = 0;
+            for (int earlier = 0; earlier <= box; earlier++) {
+                if (numbers[earlier] == number) {
+                    there++;
+                } else if (numbers[earlier] == number - 1 && earlier < grid.rowStart[box]) {
+                    matched++;
                 }
             }
-            return times;
+            return number == 1 || there <= matched;
         }
     }
 
@@ -1051,24 +1056,23 @@ public final class SkewBoard {
             return term >= 0 && term < size;
         }
 
-        int multiplicityOf(int term) {
-            return fillingsOf[keys[term]];
-        }
-
-        int lengthOf(int term, int row) {
+        /** An outer length of the term, or behind the last of them its multiplicity. */
+        int propertyOf(int term, int what) {
             int key = keys[term];
             int first = key / (BASE * BASE);
             int second = key / BASE % BASE;
             int third = key % BASE;
-            switch (row) {
+            switch (what) {
                 case 0:
                     return inner[0] + first;
                 case 1:
                     return inner[1] + second;
                 case 2:
                     return inner[2] + third;
-                default:
+                case 3:
                     return inner[3] + boxes - first - second - third;
+                default:
+                    return fillingsOf[key];
             }
         }
     }

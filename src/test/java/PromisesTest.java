@@ -483,6 +483,9 @@ public final class PromisesTest {
     private static void rulesCountFillings() {
         ways("f2/:11", 1);
         ways("t2/:11", 1);
+        ways("t2/:2", 1);
+        ways("t22/:22", 1);
+        ways("t22/:121", 1);
         ways("s2/:2", 0);
         ways("f11/:11", 2);
         ways("f11/:2", 1);
@@ -500,6 +503,12 @@ public final class PromisesTest {
         ways("c21/1:11", 2);
         ways("l1111/:1111", 1);
         ways("l1111/:2", 0);
+        ways("l32/2:2001", 0);
+        ways("l3321/221:1111", 1);
+        ways("l4321/321:22", 2);
+        ways("l432/2:32", 0);
+        ways("l432/21:222", 1);
+        ways("l432/21:321", 2);
         ways("c21/:111", 2);
         ways("c321/:2211", 4);
         ways("f1/1:0", 1);
@@ -669,6 +678,15 @@ public final class PromisesTest {
         due("3 is the content", x.drawn(1, 1, 1), 1);
         x.be(2);
         due("3 is not lattice", x.drawn(1, 1, 0), 0);
+        // behind seed 1 the numbers 3 3 are drawn, and then 2 4, 4 4, 3 4, 1 3, 2 4
+        for (String text : new String[] {"f2/:002", "f2/:012", "f2/:0021", "f2/:102"}) {
+            SkewBoard two = with(text);
+            due("33 is plain", two.drawn(1, 1, 0), 1);
+            due("33 is proper by " + text, two.drawn(1, 1, 1), text.equals("f2/:002") ? 1 : 0);
+        }
+        due("24 is drawn twice", with("f2/:0101").drawn(6, 1, 1), 2);
+        due("two are turned", with("t2/:1").drawn(6, 1, 0), 2);
+        due("four are strict", with("s2/:1").drawn(6, 1, 0), 4);
         due("all are plain", with("f1/:1").drawn(100, 77, 0), 100);
         refused(x, "drawn changes nothing", x.digest(), x.drawn(3, 4, 0) & 0, 0);
     }
@@ -697,6 +715,8 @@ public final class PromisesTest {
         x.give(1, 4);
         x.see(1, false);
         x.see(2, true);
+        due("other fillings by now", x.about(4), 11);
+        due("other terms by now", x.terms(), 0);
         due("restore", x.restore(), 5);
         due("digest as saved", x.digest(), saved);
         x.forget();
