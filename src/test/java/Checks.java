@@ -18,6 +18,10 @@ final class Checks {
         due(what, holds ? 1 : 0, 1);
     }
 
+    int compared() {
+        return compared;
+    }
+
     boolean allRight() {
         return wrong == 0;
     }
