@@ -173,6 +173,24 @@ public final class EdgesOfBoardsTest {
         Edges.filling("c32/1:211", "2311", Edges.NONE);
     }
 
+    @Says("BOARDS: \"below\" the same column of the next row, if there is such a box:")
+    static void belowIsTheSameColumnBehindTheFirstOneToo() {
+        // the second column has 4 above 3, or 2 above 2, or 1 above 2
+        Edges.filling("f22/:1111", "1423", 2);
+        Edges.filling("c22/:1111", "1423", Edges.NONE);
+        Edges.filling("c22/:13", "1222", Edges.NONE);
+        Edges.filling("s22/:1111", "1423", Edges.NONE);
+        Edges.filling("t22/:1111", "4132", Edges.NONE);
+    }
+
+    @Says("BOARDS: \"below\" the same column of the next row, if there is such a box:")
+    static void belowIsTheNextRowNotTheFirst() {
+        Edges.filling("c111/:111", "123", 0);
+        Edges.filling("c111/:111", "132", Edges.NONE);
+        Edges.filling("s111/:21", "121", Edges.NONE);
+        Edges.filling("t111/:111", "312", Edges.NONE);
+    }
+
     @Says("BOARDS: 0 plain: no number is greater than the one next to it.")
     static void plainRows() {
         Edges.filling("f2/:11", "12", 0);
@@ -220,6 +238,14 @@ public final class EdgesOfBoardsTest {
     }
 
     @Says("BOARDS: there are at no moment more 2 than 1, more 3 than 2, or more 4 than 3")
+    static void latticeTwosBehindThrees() {
+        Edges.filling("l5321/321:221", "11223", 0);
+        Edges.filling("l5321/321:221", "11232", 1);
+        Edges.filling("l4321/321:121", "1232", Edges.NONE);
+        Edges.fillings("l4321/321:121", 0);
+    }
+
+    @Says("BOARDS: there are at no moment more 2 than 1, more 3 than 2, or more 4 than 3")
     static void latticeThrees() {
         Edges.fillings("l11/:101", 0);
         Edges.filling("l321/21:111", "123", 0);
@@ -237,6 +263,7 @@ public final class EdgesOfBoardsTest {
     @Says("BOARDS: each row from its last box to its first one,")
     static void latticeReadsRowsFromTheirLastBox() {
         Edges.filling("l2/:11", "12", Edges.NONE);
+        Edges.filling("l3/:21", "112", Edges.NONE);
         Edges.filling("l31/1:21", "112", 0);
         // the second row has 1 2: 2 is read first, behind one 1, and then the other 1
         Edges.filling("l32/2:21", "112", 0);

@@ -37,7 +37,25 @@ public final class EdgesOfChangesTest {
             x -> x.give(from, to), error);
     }
 
+    /** What was asked before a change is not answered behind it. */
+    private static void fillingsAndTerms(SkewBoard x, int fillings, int terms, int firstLength) {
+        Edges.due("about(4)", x.about(4), fillings);
+        Edges.due("way(0, 0) if there is a filling", x.way(0, 0) > 0 ? 1 : 0, fillings > 0 ? 1 : 0);
+        Edges.due("count(2)", x.count(2), fillings);
+        Edges.due("terms()", x.terms(), terms);
+        Edges.due("term(0, 0)", x.term(0, 0), firstLength);
+    }
+
     // ---- 13
+
+    @Says("13: Sets the rule of the board.")
+    static void theFillingsAreThoseOfTheNewRule() {
+        SkewBoard x = Edges.with("f21/1:11");
+        fillingsAndTerms(x, 2, 2, 2);
+        x.be(2);
+        fillingsAndTerms(x, 1, 2, 2);
+        Edges.due("way(1, 0)", x.way(1, 0), Edges.UNKNOWN);
+    }
 
     @Says("13: Returns the previous kind;")
     static void theSameKindAgain() {
@@ -140,6 +158,16 @@ public final class EdgesOfChangesTest {
     }
 
     @Says("14: Makes the outer length of a row greater or smaller by 1.")
+    static void theFillingsAreThoseOfTheNewOuterLengths() {
+        SkewBoard x = Edges.with("f21/1:11");
+        fillingsAndTerms(x, 2, 2, 2);
+        x.grow(0, true);
+        fillingsAndTerms(x, 0, 2, 2);
+        x.grow(0, false);
+        fillingsAndTerms(x, 2, 2, 2);
+    }
+
+    @Says("14: Makes the outer length of a row greater or smaller by 1.")
     static void refusedGrowsChangeNothing() {
         Edges.refused(Edges::full, "grow(3, true)", x -> x.grow(3, true), Edges.UNKNOWN);
         Edges.refused(Edges::full, "grow(2, false)", x -> x.grow(2, false), Edges.STATE);
@@ -216,6 +244,16 @@ public final class EdgesOfChangesTest {
     }
 
     @Says("15: Sets the inner length of a row.")
+    static void theFillingsAndTermsAreThoseOfTheNewInnerLengths() {
+        SkewBoard x = Edges.with("f21/1:11");
+        fillingsAndTerms(x, 2, 2, 2);
+        x.cut(0, 0);
+        fillingsAndTerms(x, 0, 1, 1);
+        x.cut(0, 1);
+        fillingsAndTerms(x, 2, 2, 2);
+    }
+
+    @Says("15: Sets the inner length of a row.")
     static void refusedCutsChangeNothing() {
         Edges.refused(Edges::full, "cut(3, 0)", x -> x.cut(3, 0), Edges.UNKNOWN);
         Edges.refused(Edges::full, "cut(2, 1)", x -> x.cut(2, 1), Edges.STATE);
@@ -237,6 +275,17 @@ public final class EdgesOfChangesTest {
         gives("f1/:1", 1, 4, 1, "f1/0:0001");
         gives("f1/:18", 1, 2, 9, "f1/0:0900");
         gives("f1/:9008", 1, 4, 9, "f1/0:8009");
+    }
+
+    @Says("16: one number less of a kind, and one more of a kind.")
+    static void theFillingsAndTermsAreThoseOfTheNewContent() {
+        SkewBoard x = Edges.with("f21/1:11");
+        fillingsAndTerms(x, 2, 2, 2);
+        x.give(2, 1);
+        fillingsAndTerms(x, 1, 2, 3);
+        x.give(1, 2);
+        x.give(1, 2);
+        fillingsAndTerms(x, 1, 0, Edges.UNKNOWN);
     }
 
     @Says("16: OUTSIDE if from or to is out of range;")

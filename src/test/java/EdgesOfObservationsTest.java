@@ -377,12 +377,24 @@ public final class EdgesOfObservationsTest {
         }
     }
 
+    @Says("24: 0 how many of them satisfy the rule of the board;")
+    static void theFirstBoxCanBreakTheRule() {
+        // the draws are 1, 2 and 4
+        Edges.due("1 is lattice", Edges.with("l1/:1").drawn(1, 2032319262, 0), 1);
+        Edges.due("2 is not lattice", Edges.with("l1/:1").drawn(1, 1742513795, 0), 0);
+        Edges.due("4 is not lattice", Edges.with("l1/:1").drawn(1, 230538014, 0), 0);
+        Edges.due("4 is plain", Edges.with("f1/:1").drawn(1, 230538014, 0), 1);
+    }
+
     @Says("24: 1 how many of them are proper fillings;")
     static void someAreProper() {
         // behind seed 1: 3 3, 2 4, 4 4, 3 4, 1 3, 2 4
         Edges.due("24 comes twice", Edges.with("f2/:0101").drawn(6, 1, 1), 2);
         Edges.due("not by the content", Edges.with("f2/:11").drawn(6, 1, 1), 0);
         Edges.due("not by the rule", Edges.with("t2/:0101").drawn(6, 1, 1), 0);
-        Edges.due("not with a number more", Edges.with("f2/:0111").drawn(6, 1, 1), 0);
+        Edges.due("3 3 is drawn", Edges.with("f2/:002").drawn(6, 1, 1), 1);
+        for (String more : new String[] {"102", "012", "003", "0021", "001"}) {
+            Edges.due("not with a number more or less: " + more, Edges.with("f2/:" + more).drawn(6, 1, 1), 0);
+        }
     }
 }

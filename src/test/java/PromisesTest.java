@@ -425,8 +425,10 @@ public final class PromisesTest {
         refused(x, "less than below", x.digest(), x.cut(1, 2), STATE);
         due("the same again", x.cut(1, 4), 4);
         textIs(x, "f543/543:1100");
-        read(x, "f55/55:1");
+        read(x, "f555/550:1");
         refused(x, "STATE comes before FULL", x.digest(), x.cut(0, 0), STATE);
+        read(x, "f55/55:1");
+        refused(x, "less than below, with few boxes", x.digest(), x.cut(0, 0), STATE);
         due("cut(1, 0)", x.cut(1, 0), 5);
         refused(x, "ten boxes", x.digest(), x.cut(0, 0), FULL);
     }
