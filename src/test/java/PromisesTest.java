@@ -791,7 +791,7 @@ public final class PromisesTest {
         for (int what = 0; what < 5; what++) {
             h = 31 * h + x.about(what);
         }
-        for (int place = 0; x.text(place) != UNKNOWN; place++) {
+        for (int place = 0; place < 20 && x.text(place) != UNKNOWN; place++) {
             h = 31 * h + x.text(place);
         }
         for (int way = 0; way < 3; way++) {
